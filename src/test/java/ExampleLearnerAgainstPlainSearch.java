@@ -3,8 +3,10 @@ import java.util.Arrays;
 import java.util.List;
 
 /**
- * Long runs of calls, each answer against a search that knows the document's Terms alone: it turns
- * texts with every program in the order of programs and keeps the right ones.
+ * Long runs of calls, each answer against a search that knows the document's Terms alone: it goes
+ * through the programs in their order, past those whose beginning is wrong already, turns the
+ * examples' texts with each and keeps the right ones. Without examples the programs of three atoms
+ * are not gone through: all are right by the Terms.
  */
 public final class ExampleLearnerAgainstPlainSearch {
     private static final int RUNS = 100;
