@@ -10,7 +10,9 @@ import java.util.List;
  */
 public final class ExampleLearnerAgainstPlainSearch {
     private static final int RUNS = 100;
-    private static final int CALLS = 512;
+    private static final int CALLS = 512; // what later calls answer is free
+    private static final int MOST_CHANGES = 14; // erase, two texts of six letters and learn
+    private static final int QUESTIONS = 12;
     private static final int[] ODD_NUMBERS = {-1, 4, 18, 199, 200, Integer.MIN_VALUE, Integer.MAX_VALUE};
 
     private static int wrong = 0;
@@ -49,12 +51,12 @@ public final class ExampleLearnerAgainstPlainSearch {
         int alphabet = 1 + run % 4;
         hidden = pickProgram();
         int calls = 0;
-        while (calls < CALLS) {
+        while (calls + MOST_CHANGES + QUESTIONS <= CALLS) {
             calls += changeSomething(run, alphabet);
-            for (int i = 0; i < 12; i++) {
+            for (int i = 0; i < QUESTIONS; i++) {
                 ask(run);
             }
-            calls += 12;
+            calls += QUESTIONS;
         }
     }
 
