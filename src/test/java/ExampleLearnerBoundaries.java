@@ -1172,6 +1172,10 @@ public final class ExampleLearnerBoundaries {
         }
         dueResult(new ExampleLearner(), "0");
         dueResult(type(new ExampleLearner(), SIX, SIX), "0");
+        // A later right program of the least count turns IN into OUT; the first one's text is the result.
+        ExampleLearner later = type(learnt("0123", "23"), "01230", "30");
+        due("can: a later one does", later.can(), true);
+        dueResult(later, "23");
         // A longer result that was asked for before leaves nothing behind.
         ExampleLearner x = type(tripler(), "333333", EMPTY);
         dueResult(x, "333333333333333333");
